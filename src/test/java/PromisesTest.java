@@ -588,6 +588,10 @@ public final class PromisesTest {
         x.rule(0, row(A));
         due("nextLetter(), the least of all", x.nextLetter(), A);
         x.clear();
+        x.rule(0, row(B, 1));
+        x.rule(1, row());
+        due("nextLetter(), an empty name behind it", x.nextLetter(), B);
+        x.clear();
         x.rule(1, row(A));
         due("nextLetter(), name 0 alone counts", x.nextLetter(), 0);
         x.write(8, 0);
