@@ -12,7 +12,7 @@ import java.util.regex.Matcher;
 import java.util.regex.Pattern;
 
 /** The public face of the document, and what can be seen from outside of the rules of LANGUAGE.md. */
-public final class FaceTest {
+public final class FaceTest extends Checks {
     private static final Set<String> FACE = Set.of(
         "rule(int, int)", "drop(int)", "clear()", "rules()", "push(int)", "pop()", "write(int, int)", "length()",
         "accepts()", "fits(int, int, int)", "ends(int, int)", "ruleFits(int, int, int)", "stretches(int)",
@@ -23,25 +23,13 @@ public final class FaceTest {
         "package|import|float|double|String|Math|Integer|System|Arrays|Object|null|throw|throws|try|catch|finally"
         + "|synchronized|assert|instanceof|enum|interface|record|protected|var|super";
 
-    private static int wrong = 0;
-
     public static void main(String[] args) throws IOException {
         classItself();
         constructors();
         methods();
         fields();
         source();
-        System.out.println(wrong == 0 ? "the face is as due" : wrong + " things are not as due");
-        if (wrong != 0) {
-            System.exit(1);
-        }
-    }
-
-    private static void check(boolean good, String fault) {
-        if (!good) {
-            wrong++;
-            System.out.println(fault);
-        }
+        finish();
     }
 
     private static void classItself() {

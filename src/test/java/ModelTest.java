@@ -8,11 +8,8 @@ import java.util.Random;
  * The model knows nothing of places in a text: it works out, for each name, the set of all rows of at most 8 letters
  * that the name derives, and looks the stretches up in it.
  */
-public final class ModelTest {
-    private static final int MOST_CALLS = 512;
-    private static final int[] ODD = {Integer.MIN_VALUE, -9, -2, -1, 9, 10, 12, 13, 31, 32, 729, Integer.MAX_VALUE};
-
-    private static int wrong = 0;
+public final class ModelTest extends Checks {
+    private static final int[] ODD = {MIN, -9, -2, -1, 9, 10, 12, 13, 31, 32, 729, MAX};
 
     public static void main(String[] args) {
         for (int run = 0; run < 300; run++) {
@@ -22,17 +19,7 @@ public final class ModelTest {
             everyQuestion(grammar);
         }
         oddArgumentsEverywhere();
-        System.out.println(wrong == 0 ? "all answers are as due" : wrong + " answers are not as due");
-        if (wrong != 0) {
-            System.exit(1);
-        }
-    }
-
-    private static void due(String call, int got, int want) {
-        if (got != want) {
-            wrong++;
-            System.out.println(call + " answered " + got + ", due is " + want);
-        }
+        finish();
     }
 
     /** Calls of all kinds, now and then with odd arguments, up to the last that an object is promised for. */
@@ -172,7 +159,7 @@ public final class ModelTest {
                         model.push(5 + k % 3);
                     }
                     GllRecogniser x = copyOf(model);
-                    for (int c : new int[] {Integer.MIN_VALUE, -1, 0, 9, Integer.MAX_VALUE}) {
+                    for (int c : new int[] {MIN, -1, 0, 9, MAX}) {
                         for (int method : new int[] {0, 1, 4, 6, 9, 10, 11, 12, 13, 14, 15}) {
                             compare("odd", x, model, method, new int[] {a, b, c});
                             compare("odd", x, model, method, new int[] {0, b, c});

@@ -2,15 +2,7 @@ import java.util.ArrayList;
 import java.util.List;
 
 /** Each promise of the document by hand: ordinary inputs, the edges it names, and wrong inputs. */
-public final class PromisesTest {
-    private static final int MIN = Integer.MIN_VALUE;
-    private static final int MAX = Integer.MAX_VALUE;
-    private static final int A = 5;
-    private static final int B = 6;
-    private static final int C = 7;
-
-    private static int wrong = 0;
-
+public final class PromisesTest extends Checks {
     public static void main(String[] args) {
         newObject();
         ruleNumbers();
@@ -36,34 +28,12 @@ public final class PromisesTest {
         questionsChangeNothing();
         refusedCallsChangeNothing();
         objectsAreApart();
-        System.out.println(wrong == 0 ? "all answers are as due" : wrong + " answers are not as due");
-        if (wrong != 0) {
-            System.exit(1);
-        }
-    }
-
-    private static void due(String call, int got, int want) {
-        if (got != want) {
-            wrong++;
-            System.out.println(call + " answered " + got + ", due is " + want);
-        }
+        finish();
     }
 
     private static void dueState(String when, GllRecogniser x, List<Integer> want) {
         List<Integer> got = state(x);
-        if (!got.equals(want)) {
-            wrong++;
-            System.out.println(when + ": the state is " + got + ", due is " + want);
-        }
-    }
-
-    /** The digits of a right side, first sign first. */
-    private static int row(int... signs) {
-        int number = 0;
-        for (int sign : signs) {
-            number = number * 9 + sign + 1;
-        }
-        return number;
+        check(got.equals(want), when + ": the state is " + got + ", due is " + want);
     }
 
     private static void setText(GllRecogniser x, int... letters) {
