@@ -336,6 +336,16 @@ public final class PromisesTest extends Checks {
         setText(x, B, A, A, A, A, A, A, A);
         due("a left side that comes back behind an empty name", x.accepts(), 1);
         x.clear();
+        x.rule(0, row(0, A, B));
+        x.rule(0, row(C));
+        setText(x, C, A, B, A, B, A, B);
+        due("a rule that begins with its own name", x.accepts(), 1);
+        x.clear();
+        x.rule(0, row(A, B, 0));
+        x.rule(0, row(C));
+        setText(x, A, B, A, B, A, B, C);
+        due("a rule that ends with its own name", x.accepts(), 1);
+        x.clear();
         x.rule(0, row(1));
         x.rule(1, row(2));
         x.rule(2, row(0));

@@ -3,12 +3,15 @@ import java.util.Arrays;
 /** Each sentence of the document's terms that names a boundary case, with a test of its own. */
 public final class TermsBoundaryTest extends Boundaries {
     public static void main(String[] args) {
+        namesAndLetters();
         rowOfNoneToThreeSigns();
         atMostTwelveRules();
+        derivesAgainAndAgain();
         derivesOnlyLetters();
         letterDerivesItself();
         atMostEightLetters();
         everyStretch();
+        lettersOfAStretch();
         cutIntoStretches();
         emptyRightSide();
         noQuestionChangesAnything();
@@ -17,6 +20,17 @@ public final class TermsBoundaryTest extends Boundaries {
         goodNames();
         lastCallOfAnObject();
         finish();
+    }
+
+    private static void namesAndLetters() {
+        sentence = "SIGNS are numbered 0 .. 7: the NAMES 0 .. 4 and the LETTERS 5, 6, 7";
+        for (int sign = 0; sign < 8; sign++) {
+            boolean isName = sign < 5;
+            answers("on the left of a rule", new GllRecogniser(), isName ? 0 : -1, "rule", sign, 0);
+            answers("on the right of a rule", new GllRecogniser(), 0, "rule", 0, row(sign));
+            answers("in the text", new GllRecogniser(), isName ? -1 : 1, "push", sign);
+            answers("asked for", new GllRecogniser(), 0, "fits", sign, 0, 0);
+        }
     }
 
     private static void rowOfNoneToThreeSigns() {
@@ -43,6 +57,42 @@ public final class TermsBoundaryTest extends Boundaries {
             }
             answers(rules + " rules", x, -1, "ruleFits", rules, 0, 0);
             answers(rules + " rules", x, rules < 12 ? rules : -3, "rule", 0, 0);
+        }
+    }
+
+    /** Each letter costs a way through all five names, and the rules stand in every order. */
+    private static void derivesAgainAndAgain() {
+        sentence = "A name DERIVES a row of letters if it can be got by replacing, again and again, some name in the row";
+        int[][] letterFirst = {{0, row(1)}, {1, row(2)}, {2, row(3)}, {3, row(4)}, {4, row(A, 0)}, {4, row()}};
+        int[][] letterLast = {{0, row(1)}, {1, row(2)}, {2, row(3)}, {3, row(4)}, {4, row(0, A)}, {4, row()}};
+        inEveryOrder(letterFirst, 0);
+        inEveryOrder(letterLast, 0);
+    }
+
+    private static void inEveryOrder(int[][] rules, int from) {
+        if (from == rules.length) {
+            everyNameFitsAll(rules);
+        }
+        for (int next = from; next < rules.length; next++) {
+            swap(rules, from, next);
+            inEveryOrder(rules, from + 1);
+            swap(rules, from, next);
+        }
+    }
+
+    private static void swap(int[][] rules, int one, int other) {
+        int[] kept = rules[one];
+        rules[one] = rules[other];
+        rules[other] = kept;
+    }
+
+    private static void everyNameFitsAll(int[][] rules) {
+        GllRecogniser x = withText(A, A, A, A, A, A, A, A);
+        for (int[] rule : rules) {
+            x.rule(rule[0], rule[1]);
+        }
+        for (int name = 0; name < 5; name++) {
+            answers(Arrays.deepToString(rules), x, 45, "stretches", name);
         }
     }
 
@@ -100,6 +150,27 @@ public final class TermsBoundaryTest extends Boundaries {
                     answers("text of " + length, fits, good ? 1 : -2, "fits", 3, i, j);
                     answers("text of " + length, ruleFits, good ? i < j ? 1 : 0 : -2, "ruleFits", 7, i, j);
                     answers("text of " + length, ways, good ? 1 : -2, "ways", 3, i, j);
+                }
+            }
+        }
+    }
+
+    /** Each name derives just one row, and the text has each row more than once. */
+    private static void lettersOfAStretch() {
+        sentence = "A STRETCH is the letters at the places i .. j - 1; a sign FITS it if it derives them";
+        String text = "abcabcab";
+        String[] derived = {"ab", "abc", "bca", "abcab", "", "a", "b", "c"};
+        for (int sign = 0; sign < 8; sign++) {
+            GllRecogniser x = withText(A, B, C, A, B, C, A, B);
+            x.rule(0, row(A, B));
+            x.rule(1, row(0, C));
+            x.rule(2, row(B, C, A));
+            x.rule(3, row(A, 2, B));
+            x.rule(4, row());
+            for (int i = 0; i <= 8; i++) {
+                for (int j = i; j <= 8; j++) {
+                    int due = text.substring(i, j).equals(derived[sign]) ? 1 : 0;
+                    answers(derived[sign], x, due, "fits", sign, i, j);
                 }
             }
         }
