@@ -1,6 +1,6 @@
 import java.util.Arrays;
 
-/** Each sentence of the document's terms that names a boundary case, with a test of its own. */
+/** The sentences of the document's terms, each with a test of its own at its borders. */
 public final class TermsBoundaryTest extends Boundaries {
     public static void main(String[] args) {
         namesAndLetters();

@@ -8,8 +8,8 @@ import java.util.TreeSet;
 /**
  * What the tests of the boundary cases are made of.
  *
- * After every refused call and every question, all that can be seen of the object is held against an object that was
- * made in the same way without that call.
+ * That a refused call or a question changes nothing is seen by holding the object's picture, what further calls show
+ * of it, against the picture of an object that was made in the same way without that call.
  */
 abstract class Boundaries extends Checks {
     /** All starts have the first so many of these rules. */
